@@ -229,7 +229,7 @@ public final class AskedValley {
         if (!isWhat || !isOnTape(n, MOST_FORM) || !people.isTold()) {
             return NONE;
         }
-        boolean right = tape.isBelow(0, n, 1, QUESTIONS);
+        boolean right = tape.isBelow(0, n, QUESTIONS);
         if (right) {
             sets.orderForms(people, tape, n);
         }
@@ -308,8 +308,7 @@ public final class AskedValley {
         if (!isWhat || n < 1 || n > MOST_LOGGED || tape.size < 2 * n || !people.isTold()) {
             return NONE;
         }
-        boolean right = tape.isBelow(0, 2 * n, 2, QUESTIONS) && tape.isBelow(1, 2 * n, 2, MOST_ANSWER + 1);
-        int answer = right ? sets.fitLog(people, tape, n, what) : WRONG_BYTE;
+        int answer = tape.isLog(n) ? sets.fitLog(people, tape, n, what) : WRONG_BYTE;
         tape.clear();
         return answer;
     }
@@ -326,8 +325,8 @@ public final class AskedValley {
         if (!areSuch || !people.isTold() || tape.size < n + people.states) {
             return NONE;
         }
-        boolean right = tape.isBelow(0, n, 1, QUESTIONS)
-                && tape.isBelow(n, n + people.states, 1, MOST_WEIGHT + 1);
+        boolean right = tape.isBelow(0, n, QUESTIONS)
+                && tape.isBelow(n, n + people.states, MOST_WEIGHT + 1);
         int part = right ? sets.share(people, tape, n, answer, what) : WRONG_BYTE;
         tape.clear();
         return part;
@@ -483,6 +482,8 @@ public final class AskedValley {
         private int size;
         private int place;
         private int end;
+        // The byte at the place, END behind the last one.
+        private int sign;
         private int fault;
 
         void append(int four) {
@@ -502,10 +503,20 @@ public final class AskedValley {
             return i >= 0 && i < size ? bytes[i] : END;
         }
 
-        /** Is every stride-th byte from the first to ahead of the last below the bound? */
-        boolean isBelow(int from, int to, int stride, int bound) {
-            for (int i = from; i < to; i += stride) {
+        /** Are all bytes from the first to ahead of the last below the bound? */
+        boolean isBelow(int from, int to, int bound) {
+            for (int i = from; i < to; i++) {
                 if (byteAt(i) >= bound) {
+                    return false;
+                }
+            }
+            return true;
+        }
+
+        /** Are the first n pairs of bytes each a question and an answer? */
+        boolean isLog(int n) {
+            for (int i = 0; i < n; i++) {
+                if (byteAt(2 * i) >= QUESTIONS || byteAt(2 * i + 1) > MOST_ANSWER) {
                     return false;
                 }
             }
@@ -514,21 +525,18 @@ public final class AskedValley {
 
         void open(int n) {
             place = 0;
-            end = n;
+            end = Math.min(n, size);
+            sign = byteAt(0);
             fault = 0;
-        }
-
-        int sign() {
-            return place < end ? byteAt(place) : END;
-        }
-
-        boolean isDigit() {
-            int sign = sign();
-            return sign >= '0' && sign <= '9';
         }
 
         void step() {
             place++;
+            sign = place >= 0 && place < end && place < MOST_TAPE ? bytes[place] : END;
+        }
+
+        boolean isDigit() {
+            return sign >= '0' && sign <= '9';
         }
 
         /** Answers false, so that readers can hand it on. */
@@ -537,13 +545,9 @@ public final class AskedValley {
             return false;
         }
 
-        boolean failHere(int number) {
-            return fail(number, place);
-        }
-
-        boolean take(int sign) {
-            if (sign() != sign) {
-                return failHere(FAULT_SIGN);
+        boolean take(int wanted) {
+            if (sign != wanted) {
+                return fail(FAULT_SIGN, place);
             }
             step();
             return true;
@@ -688,16 +692,16 @@ public final class AskedValley {
             }
             int told = 0;
             // A ninth line can't be: its letter would have been told.
-            for (int line = 0; line <= QUESTIONS && text.sign() != END; line++) {
+            for (int line = 0; line <= QUESTIONS && text.sign != END; line++) {
                 if (!text.take(';')) {
                     return false;
                 }
-                int q = text.sign() - 'a';
+                int q = text.sign - 'a';
                 if (!isQuestion(q)) {
-                    return text.failHere(FAULT_SIGN);
+                    return text.fail(FAULT_SIGN, text.place);
                 }
                 if ((told >> q & 1) != 0) {
-                    return text.failHere(FAULT_MORE);
+                    return text.fail(FAULT_MORE, text.place);
                 }
                 told |= 1 << q;
                 text.step();
@@ -710,16 +714,16 @@ public final class AskedValley {
 
         private static boolean readStates(Tape text, Valley into) {
             if (!text.isDigit()) {
-                return text.failHere(FAULT_SIGN);
+                return text.fail(FAULT_SIGN, text.place);
             }
-            int number = text.sign() - '0';
+            int number = text.sign - '0';
             text.step();
             if (text.isDigit()) {
-                number = number * 10 + text.sign() - '0';
+                number = number * 10 + text.sign - '0';
                 text.step();
             }
             if (text.isDigit()) {
-                return text.failHere(FAULT_DIGIT);
+                return text.fail(FAULT_DIGIT, text.place);
             }
             if (number < 2 || number > MOST_STATES) {
                 return text.fail(FAULT_NUMBER, 0);
@@ -733,13 +737,13 @@ public final class AskedValley {
             boolean starred = false;
             // Each rule tells a state or all that are left, so there are fewer rules than this.
             for (int rule = 0; rule <= MOST_STATES + 1; rule++) {
-                boolean star = text.sign() == '*';
+                boolean star = text.sign == '*';
                 if (!star && !readsState(text, into)) {
                     return false;
                 }
-                int told = star ? untold : 1 << text.sign() - '0';
+                int told = star ? untold : 1 << text.sign - '0';
                 if (starred || (told & untold) != told) {
-                    return text.failHere(FAULT_TWICE);
+                    return text.fail(FAULT_TWICE, text.place);
                 }
                 starred = star;
                 untold &= ~told;
@@ -747,39 +751,39 @@ public final class AskedValley {
                 if (!readOutcome(text, into, q, told)) {
                     return false;
                 }
-                if (text.sign() != ',') {
+                if (text.sign != ',') {
                     return true;
                 }
                 text.step();
             }
-            return text.failHere(FAULT_TWICE);
+            return text.fail(FAULT_TWICE, text.place);
         }
 
         /** Stands a state there? (The cursor stays at it.) */
         private static boolean readsState(Tape text, Valley into) {
             if (!text.isDigit()) {
-                return text.failHere(FAULT_SIGN);
+                return text.fail(FAULT_SIGN, text.place);
             }
-            return into.has(text.sign() - '0') || text.failHere(FAULT_NUMBER);
+            return into.has(text.sign - '0') || text.fail(FAULT_NUMBER, text.place);
         }
 
         private static boolean readOutcome(Tape text, Valley into, int q, int told) {
             if (!text.take('>')) {
                 return false;
             }
-            boolean stays = text.sign() == '.';
+            boolean stays = text.sign == '.';
             if (!stays && !readsState(text, into)) {
                 return false;
             }
-            int next = text.sign() - '0';
+            int next = text.sign - '0';
             text.step();
             if (!text.take('=')) {
                 return false;
             }
             if (!text.isDigit()) {
-                return text.failHere(FAULT_SIGN);
+                return text.fail(FAULT_SIGN, text.place);
             }
-            int answer = text.sign() - '0';
+            int answer = text.sign - '0';
             text.step();
             for (int s = 0; s < MOST_STATES; s++) {
                 if ((told >> s & 1) != 0) {
@@ -822,36 +826,36 @@ public final class AskedValley {
                 if (!readItem(text, into, open)) {
                     return false;
                 }
-                if (text.sign() == END || open > 0 && text.sign() == ')') {
+                if (text.sign == END || open > 0 && text.sign == ')') {
                     return true;
                 }
             }
-            return text.failHere(FAULT_SIGN);
+            return text.fail(FAULT_SIGN, text.place);
         }
 
         private static boolean readItem(Tape text, Row into, int open) {
             int start = text.place;
             int from = into.length;
             int times = 1;
-            if (text.sign() >= '2' && text.sign() <= '9') {
-                times = text.sign() - '0';
+            if (text.sign >= '2' && text.sign <= '9') {
+                times = text.sign - '0';
                 text.step();
             }
-            int q = text.sign() - 'a';
+            int q = text.sign - 'a';
             if (isQuestion(q)) {
                 text.step();
                 // What would be too long is told below, by the length alone.
                 into.add(q);
-            } else if (text.sign() == '(') {
+            } else if (text.sign == '(') {
                 if (open >= MOST_OPEN) {
-                    return text.failHere(FAULT_DEEP);
+                    return text.fail(FAULT_DEEP, text.place);
                 }
                 text.step();
                 if (!readQuestions(text, into, open + 1) || !text.take(')')) {
                     return false;
                 }
             } else {
-                return text.failHere(FAULT_SIGN);
+                return text.fail(FAULT_SIGN, text.place);
             }
             int once = Math.max(1, into.length - from);
             if (from + once * times > MOST_ROW) {
@@ -1044,23 +1048,23 @@ public final class AskedValley {
                 if (!readRule(text, into)) {
                     return false;
                 }
-                if (text.sign() == END) {
+                if (text.sign == END) {
                     return true;
                 }
                 if (!text.take(';')) {
                     return false;
                 }
             }
-            return text.failHere(FAULT_RULES);
+            return text.fail(FAULT_RULES, text.place);
         }
 
         private static boolean readRule(Tape text, Law into) {
-            int kind = text.sign();
+            int kind = text.sign;
             if (kind != 'e' && kind != 'g' && kind != 'x') {
-                return text.failHere(FAULT_SIGN);
+                return text.fail(FAULT_SIGN, text.place);
             }
             if (into.isFull()) {
-                return text.failHere(FAULT_RULES);
+                return text.fail(FAULT_RULES, text.place);
             }
             text.step();
             into.beginRule(kind);
@@ -1089,21 +1093,21 @@ public final class AskedValley {
                 if (!read) {
                     return false;
                 }
-                if (text.sign() != between) {
+                if (text.sign != between) {
                     into.land(last);
                     return true;
                 }
                 text.step();
                 last = into.add(skip, last);
             }
-            return text.failHere(FAULT_SIGN);
+            return text.fail(FAULT_SIGN, text.place);
         }
 
         private static boolean readTest(Tape text, Law into, int open) {
-            int first = text.sign();
+            int first = text.sign;
             if (first == '!' || first == '(') {
                 if (open >= MOST_OPEN) {
-                    return text.failHere(FAULT_DEEP);
+                    return text.fail(FAULT_DEEP, text.place);
                 }
                 text.step();
                 if (first == '(') {
@@ -1118,9 +1122,9 @@ public final class AskedValley {
             if (!readNumber(text, into, open, false)) {
                 return false;
             }
-            int sign = text.sign();
+            int sign = text.sign;
             if (sign != '<' && sign != '>' && sign != '=') {
-                return text.failHere(FAULT_SIGN);
+                return text.fail(FAULT_SIGN, text.place);
             }
             text.step();
             if (!readNumber(text, into, open, false)) {
@@ -1142,7 +1146,7 @@ public final class AskedValley {
                 if (turn > 0) {
                     into.add(before, 0);
                 }
-                before = text.sign();
+                before = text.sign;
                 boolean isTight = before == '*' || before == '/' || before == '%';
                 boolean isLoose = before == '+' || before == '-';
                 if (!(tight ? isTight : isLoose)) {
@@ -1150,41 +1154,33 @@ public final class AskedValley {
                 }
                 text.step();
             }
-            return text.failHere(FAULT_SIGN);
+            return text.fail(FAULT_SIGN, text.place);
         }
 
         private static boolean readFactor(Tape text, Law into, int open) {
-            if (text.isDigit()) {
-                return readDigits(text, into);
-            }
-            int sign = text.sign();
-            if (sign == '[') {
+            if (text.sign == '[') {
                 if (open >= MOST_OPEN) {
-                    return text.failHere(FAULT_DEEP);
+                    return text.fail(FAULT_DEEP, text.place);
                 }
                 text.step();
                 return readNumber(text, into, open + 1, false) && text.take(']');
             }
-            int letter = sign == END ? NONE : LETTERS.indexOf((char) sign);
-            if (letter < 0) {
-                return text.failHere(FAULT_SIGN);
+            if (!text.isDigit()) {
+                int letter = text.sign == END ? NONE : LETTERS.indexOf((char) text.sign);
+                if (letter < 0) {
+                    return text.fail(FAULT_SIGN, text.place);
+                }
+                text.step();
+                into.add(Law.LETTER, letter);
+                return true;
             }
-            text.step();
-            into.add(Law.LETTER, letter);
-            return true;
-        }
-
-        private static boolean readDigits(Tape text, Law into) {
             int number = 0;
             for (int digits = 0; digits < MOST_DIGITS && text.isDigit(); digits++) {
-                number = number * 10 + text.sign() - '0';
+                number = number * 10 + text.sign - '0';
                 text.step();
             }
-            if (text.isDigit()) {
-                return text.failHere(FAULT_DIGIT);
-            }
             into.add(Law.NUMBER, number);
-            return true;
+            return !text.isDigit() || text.fail(FAULT_DIGIT, text.place);
         }
     }
 
