@@ -657,6 +657,19 @@ public final class AskedValley {
             return true;
         }
 
+        /** The questions that leave a state or tell two states apart at once (bits). */
+        int telling() {
+            int bits = 0;
+            for (int q = 0; q < QUESTIONS; q++) {
+                for (int s = 0; s < states; s++) {
+                    if (behind(q, s) != s || answer(q, s) != answer(q, 0)) {
+                        bits |= 1 << q;
+                    }
+                }
+            }
+            return bits;
+        }
+
         int loose() {
             int bits = everyState();
             for (int q = 0; q < QUESTIONS; q++) {
@@ -1418,6 +1431,7 @@ public final class AskedValley {
         private final int[] form = new int[MOST_FORM];
         private final int[] ahead = new int[MOST_FORM];
         private int queued;
+        private int telling;
 
         /** Takes over a row and which places must stay ahead of each. */
         void orderForms(Valley people, Tape bytes, int n) {
@@ -1476,8 +1490,7 @@ public final class AskedValley {
             for (int i = 0; i < queued && i < SETS; i++) {
                 int set = queue[i] & SETS - 1;
                 if (Integer.bitCount(set) == 1) {
-                    int s = Integer.numberOfTrailingZeros(set);
-                    return what == 0 ? worth[set] : what == 1 ? s : firsts[set];
+                    return what == 0 ? worth[set] : what == 1 ? lowest(set) : firsts[set];
                 }
                 for (int q = 0; q < QUESTIONS; q++) {
                     int first = worth[set] == 0 ? q : firsts[set];
@@ -1497,6 +1510,15 @@ public final class AskedValley {
             }
         }
 
+        private static int lowest(int set) {
+            for (int s = 0; s < MOST_STATES; s++) {
+                if ((set >> s & 1) != 0) {
+                    return s;
+                }
+            }
+            return NONE;
+        }
+
         private static int image(Valley people, int set, int q) {
             int bits = 0;
             for (int s = 0; s < people.states; s++) {
@@ -1509,6 +1531,8 @@ public final class AskedValley {
 
         /** The fewest questions of a plan for a set; NO_WAY: there is none. */
         int makeSure(Valley people, int set) {
+            // Other questions bring no plan on, and most valleys have many of them.
+            telling = people.telling();
             explore(people, set);
             boolean changed = true;
             for (int round = 1; round <= SETS && changed && worthOf(set) == UNSURE; round++) {
@@ -1532,12 +1556,18 @@ public final class AskedValley {
             for (int i = 0; i < queued && i < SETS; i++) {
                 int each = queue[i] & SETS - 1;
                 for (int q = 0; q < QUESTIONS && worth[each] != 0; q++) {
-                    split(people, each, q);
-                    for (int a = 0; a <= MOST_ANSWER; a++) {
-                        if (groups[a] != 0) {
-                            enterOpen(groups[a]);
-                        }
+                    if ((telling >> q & 1) != 0) {
+                        enterGroups(people, each, q);
                     }
+                }
+            }
+        }
+
+        private void enterGroups(Valley people, int set, int q) {
+            split(people, set, q);
+            for (int a = 0; a <= MOST_ANSWER; a++) {
+                if (groups[a] != 0) {
+                    enterOpen(groups[a]);
                 }
             }
         }
@@ -1564,16 +1594,21 @@ public final class AskedValley {
         /** The lowest question behind which each set needs fewer questions than that; NONE: there is none. */
         int firstSure(Valley people, int set, int most) {
             for (int q = 0; q < QUESTIONS; q++) {
-                split(people, set, q);
-                boolean fewer = true;
-                for (int a = 0; a <= MOST_ANSWER && fewer; a++) {
-                    fewer = groups[a] == 0 || worthOf(groups[a]) < most;
-                }
-                if (fewer) {
+                if ((telling >> q & 1) != 0 && needsFewer(people, set, q, most)) {
                     return q;
                 }
             }
             return NONE;
+        }
+
+        private boolean needsFewer(Valley people, int set, int q, int most) {
+            split(people, set, q);
+            for (int a = 0; a <= MOST_ANSWER; a++) {
+                if (groups[a] != 0 && worthOf(groups[a]) >= most) {
+                    return false;
+                }
+            }
+            return true;
         }
 
         int fitLog(Valley people, Tape bytes, int n, int what) {

@@ -97,6 +97,7 @@ public final class DaysTest {
         Due.is("the lowest of like ones", first(v, "e5(q>2)"), 3);
         Due.is("the first rule that holds", first(v, "e1(q=3);e9(q>2)"), 4);
         Due.is("the bound above", first(v, "e9999(q=3);e99999(q>1)"), 2);
+        Due.is("the bound above", first(v, "e99999(q=5);e9999(q=3)"), 3);
         Due.is("the bound above", first(v, "e9998(q=3);e99999(q=6)"), 6);
         Due.is("not above 0", first(v, "e0(1=1)"), 8);
         Due.is("below 0", first(v, "e0-5(1=1)"), 8);
