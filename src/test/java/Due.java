@@ -2,15 +2,21 @@
 final class Due {
     private static int wrong = 0;
     private static int asked = 0;
+    private static String about = "";
 
     private Due() {
+    }
+
+    /** What the answers from here on are told to be about, if they are wrong. */
+    static void about(String words) {
+        about = words + ": ";
     }
 
     static void is(String call, long got, long want) {
         asked++;
         if (got != want) {
             wrong++;
-            System.out.println(call + " answered " + got + ", due is " + want);
+            System.out.println(about + call + " answered " + got + ", due is " + want);
         }
     }
 
@@ -86,7 +92,7 @@ final class Due {
         asked++;
         if (!before.equals(after)) {
             wrong++;
-            System.out.println(call + " left " + after + ", due is " + before);
+            System.out.println(about + call + " left " + after + ", due is " + before);
         }
     }
 
