@@ -1,15 +1,14 @@
 import java.io.IOException;
 
-/**
- * All promises and terms: for each sentence of the document that names a bound, a fault, a refusal, or what stays and what
- * is emptied then, a test that is named by its words.
- */
+/** All that the document says: for each of its sentences a test that is named by its words. */
 public final class BoundsTest {
     private BoundsTest() {
     }
 
     public static void main(String[] args) throws IOException {
         Sentence.open("../shared/DOC.md");
+        StoryBounds.run();
+        FaceBounds.run();
         ValleyBounds.run();
         CensusBounds.run();
         LawBounds.run();

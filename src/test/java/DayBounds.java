@@ -7,6 +7,7 @@ final class DayBounds {
     }
 
     static void run() {
+        withDraw();
         dear();
         likedMost();
         changes();
@@ -20,6 +21,29 @@ final class DayBounds {
         AskedValley v = Due.of(EVERY);
         Due.is("law " + law, Due.law(v, law) > 0, true);
         return v;
+    }
+
+    private static void withDraw() {
+        Sentence.of("Terms", "A DAY, with a DRAW");
+        // One draw a day, the same for all questions and for what is given, whether one is asked or not.
+        AskedValley v = with("e9-q(q=w|q=w-5);g[w](1=1)");
+        int x = 1;
+        int purse = 999;
+        for (int day = 1; day <= 40; day++) {
+            x = (25173 * x + 13849) % 65536;
+            int w = x % 10;
+            int q = w >= 5 ? w - 5 : w;
+            purse += w - 1;
+            Due.is("one question", v.days(1), 1);
+            Due.is("by the draw", v.count(4), q);
+            Due.is("given by the same draw", v.count(5), purse);
+            Due.is("X", v.count(10), x);
+        }
+        v = with("e1(w=3)");
+        for (int day = 1; day <= 40; day++) {
+            int asked = v.days(1);
+            Due.is("asked by the draw", asked, v.count(10) % 10 == 3 ? 1 : 0);
+        }
     }
 
     private static void dear() {

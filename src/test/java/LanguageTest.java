@@ -1,4 +1,5 @@
 import java.io.IOException;
+import java.lang.reflect.Array;
 import java.lang.reflect.Constructor;
 import java.lang.reflect.Field;
 import java.lang.reflect.Method;
@@ -7,7 +8,9 @@ import java.nio.file.Files;
 import java.nio.file.Path;
 import java.util.ArrayList;
 import java.util.Arrays;
+import java.util.IdentityHashMap;
 import java.util.List;
+import java.util.Map;
 import java.util.TreeSet;
 import java.util.regex.Matcher;
 import java.util.regex.Pattern;
@@ -29,6 +32,7 @@ public final class LanguageTest {
         words(code);
         made(code);
         lengths(source);
+        room();
         Due.end();
     }
 
@@ -102,6 +106,62 @@ public final class LanguageTest {
             if (line.contains("new ")) {
                 Due.is("made: " + line, allowed.matcher(line).matches(), true);
             }
+        }
+    }
+
+    /** All calls of one run live in one room: what an object holds is little, and no call adds to it. */
+    private static void room() {
+        AskedValley v = new AskedValley();
+        int[] first = held(v);
+        Due.is("objects and arrays: " + first[0], first[0] <= 100, true);
+        Due.is("fields and elements: " + first[1], first[1] <= 10000, true);
+        Due.valley(v, "10;a:0>1=0,1>2=0,2>3=0,3>4=0,4>5=0,5>6=0,6>7=0,7>8=0,8>9=0,9>0=0;b:9>0=0");
+        Due.law(v, "e1+q(1=1);g9(w<5)");
+        for (int call = 0; call < 512; call += 8) {
+            v.days(100);
+            Due.census(v, "5(8a)");
+            Due.forms(v, "abcdefghab", 100);
+            v.plan(1023, 0);
+            v.known(0);
+            v.inspectors(0, 9, 1);
+            v.classes(100);
+            v.keep();
+        }
+        int[] last = held(v);
+        Due.is("objects and arrays then", last[0], first[0]);
+        Due.is("fields and elements then", last[1], first[1]);
+    }
+
+    /** How many objects and arrays an object holds, itself too, and how many fields and elements these have. */
+    private static int[] held(Object top) {
+        Map<Object, Boolean> seen = new IdentityHashMap<>();
+        List<Object> all = new ArrayList<>();
+        int[] counts = new int[2];
+        seen.put(top, true);
+        all.add(top);
+        for (int i = 0; i < all.size(); i++) {
+            Object each = all.get(i);
+            counts[0]++;
+            counts[1] += each.getClass().isArray() ? Array.getLength(each) : 0;
+            for (Field f : each.getClass().getDeclaredFields()) {
+                if (!Modifier.isStatic(f.getModifiers())) {
+                    counts[1]++;
+                    Object value = read(f, each);
+                    if (!f.getType().isPrimitive() && value != null && seen.put(value, true) == null) {
+                        all.add(value);
+                    }
+                }
+            }
+        }
+        return counts;
+    }
+
+    private static Object read(Field f, Object of) {
+        try {
+            f.setAccessible(true);
+            return f.get(of);
+        } catch (IllegalAccessException e) {
+            throw new IllegalStateException(e);
         }
     }
 

@@ -10,7 +10,6 @@ final class PromiseBounds {
     }
 
     static void run() {
-        calls();
         newObject();
         state();
         price();
@@ -26,6 +25,7 @@ final class PromiseBounds {
         censusLength();
         censusFault();
         censusRefused();
+        lookLikewise();
         look();
         lookPlace();
         lookRefused();
@@ -49,18 +49,6 @@ final class PromiseBounds {
         }
         Due.is("bytes", v.count(9), bytes);
         return v;
-    }
-
-    private static void calls() {
-        Sentence.of("What it is", "An object is used for at most 512 calls after it has been made");
-        AskedValley v = new AskedValley();
-        Due.is("the first call", v.feed(0x323b613a, 0x303e313d, 0x372c2a3e, 0x303d3800, 0), 20);
-        Due.is("the second", v.valley(15), 2);
-        for (int call = 3; call < 512; call += 2) {
-            int turn = call / 2;
-            Due.is("the call " + call, v.feed(0x61000000, 0, 0, 0, 0), 20);
-            Due.is("the call " + (call + 1), v.census(1), turn % 2 == 1 ? 7 : 8);
-        }
     }
 
     private static void newObject() {
@@ -338,6 +326,30 @@ final class PromiseBounds {
         Due.is("no valley", none.census(1), -1);
         Due.is("no valley, and a fault", fill(none, 20, 'i').census(1), -1);
         Due.same("no valley: the tape stays", "0 0 0 0 8 999 0 0 0 20 1 ", Due.all(none));
+    }
+
+    private static void lookLikewise() {
+        Sentence.of("Promise 9", "A CENSUS likewise is looked at");
+        // By the first n bytes of the tape, 1 to 60, which is empty then; what a census would do is told, and not done.
+        AskedValley v = Due.of("5;a:0>1=1,1>2=2,2>3=3,3>4=4;b:*>0=9");
+        Due.census(v, "a");
+        String before = Due.all(v);
+        String[] text = {"a", "2ab", "2(ab)a", "(2(2a)b)", "h", "(a)".repeat(20)};
+        for (String each : text) {
+            Due.feed(v, each + "zzz");
+            int answer = v.look(each.length(), 100);
+            Due.is("the tape is empty then: " + each, v.count(9), 0);
+            int state = Due.look(v, each, 101);
+            int sum = Due.look(v, each, 102);
+            int many = Due.look(v, each, 103);
+            Due.same("it is not taken: " + each, before, Due.all(v));
+            v.keep();
+            Due.is("the last answer of " + each, Due.census(v, each), answer);
+            Due.is("the state behind " + each, v.count(2), state);
+            Due.is("how many " + each, v.count(6), 1 + many);
+            Due.is("the answers of " + each, v.count(7), 1 + sum);
+            v.undo();
+        }
     }
 
     private static void look() {

@@ -15,6 +15,7 @@ final class RowBounds {
         taken();
         places();
         forms();
+        firstForm();
         leads();
         backs();
         cheapest();
@@ -25,8 +26,10 @@ final class RowBounds {
         logged();
         next();
         odds();
+        turns();
         inspectors();
         together();
+        togetherBits();
         loose();
         kept();
         checked();
@@ -115,6 +118,31 @@ final class RowBounds {
         Due.feed(v, new int[20]);
         Due.is("none", v.forms(0, 100), -1);
         Due.is("eleven", v.forms(11, 100), -1);
+    }
+
+    private static void firstForm() {
+        Sentence.of("Terms", "the QUESTION at a place of the first of them (by letters).");
+        // a and b may not change places; all others go where their letter stands.
+        AskedValley v = Due.of(ROUND);
+        String[] row = {"a", "ba", "ab", "ca", "cba", "hgfedcba", "abcabcabca", "cbaccbaccb", "hahbhahbha", "bbbbbaaaaa"};
+        String[] first = {"a", "ba", "ab", "ac", "bac", "bacdefgh", "abababaccc", "bababccccc", "ababahhhhh", "bbbbbaaaaa"};
+        for (int i = 0; i < row.length; i++) {
+            for (int place = 0; place < row[i].length(); place++) {
+                Due.is("of " + row[i] + " the place " + place, Due.forms(v, row[i], place), first[i].charAt(place) - 'a');
+            }
+        }
+        // a with c, but b with neither: the b that stands between them keeps them as they were.
+        v = Due.of("4;a:0>1=0,1>0=0,2>3=0,3>2=0;b:0>1=0,1>2=0,2>0=0;c:0>2=0,2>0=0,1>3=0,3>1=0");
+        Due.is("a and c", v.changePlaces(0, 2), 1);
+        Due.is("a and b", v.changePlaces(0, 1), 0);
+        Due.is("b and c", v.changePlaces(1, 2), 0);
+        row = new String[] {"ca", "cab", "bca", "cba", "cacbca", "dcbad"};
+        first = new String[] {"ac", "acb", "bac", "cba", "accbac", "cbadd"};
+        for (int i = 0; i < row.length; i++) {
+            for (int place = 0; place < row[i].length(); place++) {
+                Due.is("of " + row[i] + " the place " + place, Due.forms(v, row[i], place), first[i].charAt(place) - 'a');
+            }
+        }
     }
 
     private static void leads() {
@@ -310,6 +338,28 @@ final class RowBounds {
         }
     }
 
+    private static void turns() {
+        Sentence.of("Terms", "TWO INSPECTORS by turns ask from a STATE");
+        // All questions lead one state on; behind so many of them one has the answer 9: by turns, it is the one, then the other.
+        for (int last = 0; last < 4; last++) {
+            StringBuilder text = new StringBuilder("5");
+            for (char q = 'a'; q <= 'h'; q++) {
+                text.append(';').append(q).append(':');
+                for (int s = 0; s <= last; s++) {
+                    text.append(s == 0 ? "" : ",").append(s).append('>').append(s + 1).append('=').append(s == last ? 9 : 1);
+                }
+            }
+            AskedValley v = Due.of(text.toString());
+            for (int s = 0; s < 5; s++) {
+                int many = s <= last ? last - s + 1 : 0;
+                due(v, s, 9, many == 0 ? 0 : 2 - many % 2, many);
+                // From the state that is told, whatever THE STATE is.
+                v.state(4 - s);
+                due(v, s, 9, many == 0 ? 0 : 2 - many % 2, many);
+            }
+        }
+    }
+
     private static void inspectors() {
         Sentence.of("Terms", "each any of the eight QUESTIONS but the one asked just ahead (the first one any); who first has an ANSWER of just so much wins: "
                 + "the one who begins wins (1), loses (2), neither can (0); in how many QUESTIONS, if both do their best (who wins soonest, who loses latest; 0: 0).");
@@ -346,6 +396,32 @@ final class RowBounds {
     }
 
     private static void together() {
+        Sentence.of("Terms", "TOGETHER: of two QUESTIONS from a STATE: do both, one behind the other, either way have the ANSWERS that each alone would have");
+        AskedValley v = Due.of("5;a:0>1=1,1>2=2,2>3=2,3>4=1;b:0>2=3,1>0=3,2>1=4,3>3=4,4>0=4;c:*>.=6");
+        for (int s = 0; s < 5; s++) {
+            for (int q = 0; q < 4; q++) {
+                for (int r = 0; r < 4; r++) {
+                    // What both answer, one behind the other, as a census would.
+                    v.state(s);
+                    boolean first = answers(v, q, r) == 10 * v.askedAt(q, s, 0) + v.askedAt(r, s, 0);
+                    boolean second = answers(v, r, q) == 10 * v.askedAt(r, s, 0) + v.askedAt(q, s, 0);
+                    Due.is("of " + q + " and " + r + " from " + s, v.together(q, r, s), (first ? 1 : 0) + (second ? 2 : 0));
+                }
+            }
+        }
+        // Where they lead does not matter, only what they answer: from 3 ab leaves 0 and ba 4.
+        Due.is("from 0", v.together(0, 1, 0), 1);
+        Due.is("from 1", v.together(0, 1, 1), 0);
+        Due.is("from 3", v.together(0, 1, 3), 3);
+    }
+
+    /** What two questions answer, one behind the other, from THE STATE on. */
+    private static int answers(AskedValley v, int q, int r) {
+        String row = "" + (char) ('a' + q) + (char) ('a' + r);
+        return 10 * Due.look(v, row, 0) + Due.look(v, row, 1);
+    }
+
+    private static void togetherBits() {
         Sentence.of("Terms", "(bits: 1 the first ahead of the second, 2 the other way)");
         AskedValley v = Due.of(ROUND);
         Due.is("neither", v.together(0, 1, 3), 0);
@@ -512,6 +588,16 @@ final class RowBounds {
             refuses("known", v -> v.known(x), -1);
             refuses("alone", v -> v.alone(x), -1);
             refuses("count", v -> v.count(x), -1);
+            refuses("askedAt", v -> v.askedAt(x, 0, 0), -1);
+            refuses("askedAt", v -> v.askedAt(0, x, 0), -1);
+            refuses("changePlaces", v -> v.changePlaces(0, x), -1);
+            refuses("leads", v -> v.leads(x, 0, 0), -1);
+            refuses("leads", v -> v.leads(0, 1, x), -1);
+            refuses("back", v -> v.back(0, x), -1);
+            refuses("cheapest", v -> v.cheapest(0, x), -1);
+            refuses("parts", v -> v.parts(x, 0, 0), -1);
+            refuses("inspectors", v -> v.inspectors(0, x, 0), -1);
+            refuses("together", v -> v.together(0, x, 0), -1);
         }
     }
 

@@ -9,13 +9,13 @@ import java.util.regex.Pattern;
 
 /**
  * The words of the document that a test is named by. They must stand there, in the section that is told; and behind all
- * tests each mark of a bound, a fault, a refusal or of what stays must be within the words of some test.
+ * tests each word and each number of these sections must be within the words of some test.
  */
 final class Sentence {
-    private static final Pattern MARK = Pattern.compile("[0-9]+|NONE|false|FAULTS?|REFUSED|refused|\\bstays?\\b|\\bempty\\b"
-            + "|\\b[Nn]one\\b|\\bnothing\\b|\\bno\\b|\\bmost\\b|\\bleast\\b|\\babove\\b|\\bbelow\\b|\\bbeyond\\b|modulo"
-            + "|\\b[Ww]ithout\\b|can't|\\bneither\\b|\\bas many as can\\b");
-    private static final String WHAT = "What it is";
+    private static final Pattern WORD = Pattern.compile("[A-Za-z0-9]+");
+    /** Fences of what is set as a text or as Java, and the numbers of parts. */
+    private static final Pattern MARKUP = Pattern.compile("```[a-z]*|==== [0-9]\\.");
+    private static final String NOT_PROMISED = "Not promised";
     private static final Map<String, String> TEXTS = new LinkedHashMap<>();
     private static final Map<String, BitSet> TOLD = new LinkedHashMap<>();
 
@@ -32,13 +32,19 @@ final class Sentence {
         for (String part : Files.readString(Path.of(path)).split("(?m)^## ")) {
             int end = Math.max(0, part.indexOf('\n'));
             String name = part.substring(0, end).replaceAll(":.*", "").trim();
-            if (name.equals(WHAT) || name.equals("Terms") || name.startsWith("Promise ")) {
+            // The first part is the document's name alone, and of what is not promised no test can tell.
+            if (!part.startsWith("# ") && !name.equals(NOT_PROMISED)) {
                 TEXTS.put(name, part.substring(end));
                 TOLD.put(name, new BitSet());
             }
         }
         Due.about("The document");
-        Due.is("sections", TEXTS.size(), 34);
+        Due.is("sections", TEXTS.size(), 35);
+    }
+
+    /** What a section says; empty without the document. */
+    static String text(String section) {
+        return TEXTS.getOrDefault(section, "");
     }
 
     /** The answers from here on are those that these words of the document ask for. */
@@ -47,7 +53,7 @@ final class Sentence {
         if (TEXTS.isEmpty()) {
             return;
         }
-        String text = TEXTS.getOrDefault(section, "");
+        String text = text(section);
         Due.is("how often the document says so", text.split(Pattern.quote(words), -1).length - 1, 1);
         int at = text.indexOf(words);
         if (at >= 0) {
@@ -60,13 +66,14 @@ final class Sentence {
             Due.about(each.getKey());
             String text = each.getValue();
             BitSet told = TOLD.get(each.getKey());
-            Matcher mark = MARK.matcher(text);
-            // What it is only names what the terms tell.
-            while (!each.getKey().equals(WHAT) && mark.find()) {
-                // The number of a part ("==== 2.") is none of the valley's.
-                boolean isPart = mark.start() >= 5 && text.startsWith("==== ", mark.start() - 5);
-                String near = text.substring(Math.max(0, mark.start() - 30), Math.min(text.length(), mark.end() + 30));
-                Due.is("a test named by .." + near.replace('\n', ' ') + "..", isPart || told.get(mark.start()), true);
+            Matcher markup = MARKUP.matcher(text);
+            while (markup.find()) {
+                told.set(markup.start(), markup.end());
+            }
+            Matcher word = WORD.matcher(text);
+            while (word.find()) {
+                String near = text.substring(Math.max(0, word.start() - 30), Math.min(text.length(), word.end() + 30));
+                Due.is("a test named by .." + near.replace('\n', ' ') + "..", told.get(word.start()), true);
             }
         }
     }
